@@ -47,6 +47,8 @@ public final class WhichWord {
     private static final int BELOW = -4;
     private static final int ROOM = -6;
     private static final int REFUSAL_NUMBERS = 6;
+    /** What count is asked for of REFUSALS -1 is one more than this. */
+    private static final int FIRST_REFUSALS = 10;
     private static final int NONE = -9;
     private static final int FAULT = -20;
     private static final long LONG_REFUSALS = -4000000000000000000L;
@@ -353,9 +355,15 @@ public final class WhichWord {
             case 5:
                 return text.length();
             default:
-                int number = what >= 11 && what <= 16 ? what - 10 : 0;
-                return number > 0 && number < refusals.length ? refusals[number] : NONE;
+                return countRefusals(what);
         }
+    }
+
+    private int countRefusals(int what) {
+        if (what <= FIRST_REFUSALS || what >= FIRST_REFUSALS + refusals.length) {
+            return NONE;
+        }
+        return refusals[what - FIRST_REFUSALS];
     }
 
     private int refuse(int answer) {

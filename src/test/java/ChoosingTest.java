@@ -36,6 +36,13 @@ public final class ChoosingTest {
         WhichWord y = Due.of("a", "b", "c", "c");
         Due.sayIn(y, 0, 0, 1);
         DUE.is("25: nothing is LEFT, the least", y.next(0), 2);
+        DUE.is("25: all are LEFT, all SCENES alike, the least", y.next(1), 0);
+        WhichWord late = new WhichWord();
+        for (int i = 0; i < 23; i++) {
+            Due.tell(late, "a");
+        }
+        Due.tell(late, "ab");
+        DUE.is("25: the last SCENE there can be", late.next(0), 23);
     }
 
     private static void enough() {
@@ -82,6 +89,8 @@ public final class ChoosingTest {
         x.say(0, 0, true);
         DUE.is("27: one less is SHOWN", x.help(0, 84, 1), 2);
         DUE.is("27: there are not three", x.help(0, 0, 3), -9);
+        WhichWord y = Due.of("b,c;0x1", "a,b;0x1");
+        DUE.is("27: seven by either, the least", y.help(0, 39, 1), 1);
     }
 
     private static void helpRefused() {

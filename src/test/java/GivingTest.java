@@ -205,5 +205,13 @@ public final class GivingTest {
         }
         x.give(2, 1);
         DUE.is("24: it FITS again", x.orders(), 1);
+        WhichWord here = given("a*,b*;0x1");
+        here.saying(0, 12);
+        DUE.is("24: HERE or not", here.orders(), 1);
+        here.give(0, 6);
+        DUE.is("24: the first that is no MARK, for who", here.orders(), 0);
+        here.give(0, 0);
+        here.give(2, 6);
+        DUE.is("24: for whom", here.orders(), 0);
     }
 }

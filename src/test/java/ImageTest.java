@@ -4,6 +4,7 @@ public final class ImageTest {
 
     public static void main(String[] args) {
         imageKeepsAll();
+        imageKeepsSayings();
         imageLeavesOut();
         imageOfNothing();
         count();
@@ -61,6 +62,25 @@ public final class ImageTest {
         x.takeBack();
         DUE.is("32: it is the later one", x.restore(), 3);
         DUE.is("32: its SAYINGS", x.count(4), 3);
+    }
+
+    private static void imageKeepsSayings() {
+        WhichWord x = Due.of("a,b;0x1", "f");
+        x.give(0, 0);
+        x.give(1, 39);
+        x.give(2, 1);
+        x.saying(0, 12);
+        x.image();
+        x.takeBack();
+        x.takeBack();
+        Due.tell(x, "f");
+        Due.tell(x, "a,b;0x1");
+        x.saying(1, 210);
+        DUE.is("31: another SAYING", x.orders(), 32);
+        x.restore();
+        DUE.is("32: SAYINGS, their SCENES and WORDS", x.orders(), 1);
+        x.takeBack();
+        DUE.is("32: it is of the first SCENE", x.count(4), 1);
     }
 
     private static void imageLeavesOut() {

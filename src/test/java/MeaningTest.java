@@ -102,6 +102,25 @@ public final class MeaningTest {
         hasJust("c,d*,e;0z2", 2, 3, 4, 41, 56, 76, 81, 86, 88);
         hasJust("c,d;0x1,1y0", 2, 3, 39, 40, 44, 51, 63, 68, 86, 87);
         hasJust("ef*,f;1y0,1y0", 4, 5, 20, 36, 40, 53, 70, 71, 82, 83, 89);
+        int joined = 6;
+        for (int m = 0; m < 6; m++) {
+            for (int n = m + 1; n < 6; n++) {
+                String text = String.valueOf(new char[] {(char) ('a' + m), (char) ('a' + n)});
+                hasJust(text, m, n, joined, 84 + m, 84 + n);
+                joined++;
+            }
+        }
+        for (int m = 0; m < 6; m++) {
+            String one = String.valueOf((char) ('a' + m));
+            hasJust(one + "," + one, m, 21 + 3 * m, 84 + m);
+            hasJust(one + "," + one + "," + one, m, 22 + 3 * m, 84 + m);
+            hasJust(one + "," + one + "," + one + "," + one, m, 23 + 3 * m, 84 + m);
+            for (int v = 0; v < 3; v++) {
+                String by = String.valueOf((char) ('x' + v));
+                int count = 21 + 3 * m;
+                hasJust(one + "," + one + ";1" + by + "0", m, count, 39 + v, 42 + 6 * v + m, 60 + 6 * v + m, 84 + m);
+            }
+        }
     }
 
     private static void hasRefused() {

@@ -151,6 +151,21 @@ public final class SceneTest {
         DUE.is("4: no SAYING", x.orders(), 63);
         DUE.is("4: there is none again", x.takeBack(), -3);
         DUE.is("4: MEANINGS are like each other again", x.never(), 4005);
+        sayingsThatStay();
+    }
+
+    private static void sayingsThatStay() {
+        WhichWord x = Due.of("a,b;0x1", "a,b;0y1");
+        x.give(0, 0);
+        x.give(1, 39);
+        x.give(2, 1);
+        x.saying(1, 12);
+        x.saying(0, 210);
+        x.saying(1, 102);
+        x.takeBack();
+        DUE.is("4: a SAYING behind one that went stays what it was", x.orders(), 32);
+        Due.tell(x, "a");
+        DUE.is("4: and of its SCENE", x.orders(), 32);
     }
 
     private static void thing() {
