@@ -47,8 +47,8 @@ public final class WhichWord {
     private static final int BELOW = -4;
     private static final int ROOM = -6;
     private static final int REFUSAL_NUMBERS = 6;
-    /** What count is asked for of REFUSALS -1 is one more than this. */
-    private static final int FIRST_REFUSALS = 10;
+    /** The last number ahead of those by which count is asked for REFUSALS. */
+    private static final int AHEAD_OF_REFUSALS = 10;
     private static final int NONE = -9;
     private static final int FAULT = -20;
     private static final long LONG_REFUSALS = -4000000000000000000L;
@@ -360,10 +360,10 @@ public final class WhichWord {
     }
 
     private int countRefusals(int what) {
-        if (what <= FIRST_REFUSALS || what >= FIRST_REFUSALS + refusals.length) {
+        if (what <= AHEAD_OF_REFUSALS || what >= AHEAD_OF_REFUSALS + refusals.length) {
             return NONE;
         }
-        return refusals[what - FIRST_REFUSALS];
+        return refusals[what - AHEAD_OF_REFUSALS];
     }
 
     private int refuse(int answer) {
