@@ -1,13 +1,39 @@
 /** Compares answers with those that are due; a test ends with it, so that a wrong answer fails the run. */
 final class Due {
+    /** Stands ahead of what is printed, so that the test can be told from it. */
+    private final String name;
     private int asked = 0;
     private int wrong = 0;
+
+    Due() {
+        this("");
+    }
+
+    Due(String name) {
+        this.name = name;
+    }
+
+    int asked() {
+        return asked;
+    }
+
+    int wrong() {
+        return wrong;
+    }
 
     void is(String call, long got, long want) {
         asked++;
         if (got != want) {
             wrong++;
-            System.out.println(call + " answered " + got + ", due is " + want);
+            System.out.println(name + call + " answered " + got + ", due is " + want);
+        }
+    }
+
+    void isText(String call, String got, String want) {
+        asked++;
+        if (!got.equals(want)) {
+            wrong++;
+            System.out.println(name + call + " is\n  " + got + "\n  and due is\n  " + want);
         }
     }
 
